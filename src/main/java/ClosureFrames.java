@@ -118,7 +118,10 @@ public final class ClosureFrames {
 
     public int state(int method, int act, int place) {
         Method m = methodAt(method);
-        Act asked = m == null ? null : m.actAt(act);
+        if (m == null) {
+            return BAD;
+        }
+        Act asked = m.actAt(act);
         if (asked == null || !(isPlace(place) || isOnStack(place) || place == ASK_HEIGHT)) {
             return BAD;
         }
@@ -630,7 +633,6 @@ public final class ClosureFrames {
             kind = newKind;
             a = newA;
             b = newB;
-            forget();
         }
 
         void forget() {
