@@ -5,7 +5,10 @@ import java.util.Random;
 import java.util.TreeMap;
 import java.util.TreeSet;
 
-/** Many runs of calls, always the same ones, against a second program that was written from the document alone. */
+/**
+ * Many runs of calls, always the same ones, against a second, plainer program.
+ * Both are by one hand: this finds slips, not a document that was misread twice in the same way.
+ */
 public final class ModelTest {
     private static final int RUNS = 6000;
     private static final int BAD = -1, FULL = -2, STATE = -3, NONE = -4;
