@@ -1,79 +1,5 @@
 /** Each promise of the document by hand: ordinary inputs, its edges, wrong inputs. */
-public final class PromisesTest {
-    private static final int BAD = -1, FULL = -2, STATE = -3, NONE = -4;
-    private static final int INT = 0, WIDE = 1, NULL = 2, LOAD = 3, STORE = 4, POP = 5, TWICE = 6, ADD = 7,
-            ADD_WIDE = 8, NEW = 9, MAKE = 10, FIELD = 11, CALL = 12, CAST = 13, GO = 14, IF = 15, SWITCH = 16,
-            GIVE = 17, GIVE_OBJECT = 18, THROW = 19, MORE = 20;
-    private static final int LOW = Integer.MIN_VALUE, HIGH = Integer.MAX_VALUE;
-
-    private static int wrong = 0;
-    private static int asked = 0;
-
-    private static void due(String what, int got, int want) {
-        asked++;
-        if (got != want) {
-            wrong++;
-            System.out.println(what + " answered " + got + ", due is " + want);
-        }
-    }
-
-    /** An object with classes 1 below the root, 2 and 3 below 1, 4 a face, 5 below the root. */
-    private static ClosureFrames withClasses() {
-        ClosureFrames x = new ClosureFrames();
-        x.cls(0, false);
-        x.cls(1, false);
-        x.cls(1, false);
-        x.cls(0, true);
-        x.cls(0, false);
-        return x;
-    }
-
-    /** Tells acts, each as kind, a, b (what is left out is 0). */
-    private static ClosureFrames tell(ClosureFrames x, int method, int[]... acts) {
-        for (int[] each : acts) {
-            int a = each.length > 1 ? each[1] : 0;
-            int b = each.length > 2 ? each[2] : 0;
-            if (x.act(method, each[0], a, b) < 0) {
-                wrong++;
-                System.out.println("an act of a test was refused: " + each[0] + ", " + a + ", " + b);
-            }
-        }
-        return x;
-    }
-
-    private static int[] a(int... numbers) {
-        return numbers;
-    }
-
-    /** Method 0 with some places and the acts has a fault at an act. */
-    private static void faulty(String what, int places, int fault, int at, int[]... acts) {
-        ClosureFrames x = withClasses();
-        x.clear(0, places);
-        faultyHere(what, x, fault, at, acts);
-    }
-
-    private static void faultyHere(String what, ClosureFrames x, int fault, int at, int[]... acts) {
-        tell(x, 0, acts);
-        due(what + ": compute", x.compute(0), -10 - at);
-        due(what + ": fault", x.fault(), fault);
-        due(what + ": told(31)", x.told(31), NONE);
-        due(what + ": state", x.state(0, 0, 0), STATE);
-    }
-
-    private static ClosureFrames right(String what, int places, int frames, int[]... acts) {
-        ClosureFrames x = withClasses();
-        x.clear(0, places);
-        return rightHere(what, x, frames, acts);
-    }
-
-    private static ClosureFrames rightHere(String what, ClosureFrames x, int frames, int[]... acts) {
-        tell(x, 0, acts);
-        due(what + ": compute", x.compute(0), frames);
-        due(what + ": fault", x.fault(), 0);
-        due(what + ": told(31)", x.told(31), frames);
-        return x;
-    }
-
+public final class PromisesTest extends TestKit {
     public static void main(String[] args) {
         newObject();
         classes();
@@ -108,10 +34,7 @@ public final class PromisesTest {
         lookingFaults();
         told();
         changes();
-        System.out.println(wrong == 0 ? asked + " answers are as due" : wrong + " of " + asked + " are not as due");
-        if (wrong != 0) {
-            System.exit(1);
-        }
+        end();
     }
 
     private static void newObject() {
@@ -563,12 +486,6 @@ public final class PromisesTest {
         due("11: method", x.state(8, 0, 0), BAD);
         due("11: method", x.state(-1, 0, 0), BAD);
         due("11: no acts", x.state(1, 0, 0), BAD);
-    }
-
-    private static void statesAre(String what, ClosureFrames x, int act, int... types) {
-        for (int i = 0; i < types.length; i++) {
-            due(what + ", place " + i, x.state(0, act, i), types[i]);
-        }
     }
 
     private static void stores() {
