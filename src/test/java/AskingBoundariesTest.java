@@ -302,6 +302,7 @@ public final class AskingBoundariesTest extends TestKit {
         due("none of three", planted(a(1, 10, 1), a()).form(0, 0), 23);
         due("more than the beginning", planted(a(), a(1)).form(0, 0), 31);
         due("another than the beginning", planted(a(10), a(11)).form(0, 0), 40);
+        due("not the state of its act", formWithStack(2), 32);
     }
 
     static void p13TheOneBefore() {

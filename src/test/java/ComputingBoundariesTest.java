@@ -109,7 +109,18 @@ public final class ComputingBoundariesTest extends TestKit {
         faultyHere("to another height, then to no act", y, HEIGHT, 0, a(POP));
         ClosureFrames z = withClasses();
         z.guard(0, 0, 1, 1, 0);
-        faultyHere("the act itself behind them", z, EMPTY, 0, a(POP), a(THROW));
+        z.guard(0, 0, 1, 1, 0);
+        z.guard(0, 0, 1, 1, 0);
+        z.guard(0, 0, 1, 9, 0);
+        faultyHere("to no act, by the last of four", z, END, 0, a(POP), a(THROW));
+        ClosureFrames w = withClasses();
+        w.guard(0, 0, 1, 1, 0);
+        faultyHere("the act itself behind them", w, EMPTY, 0, a(POP), a(THROW));
+        ClosureFrames v = withClasses();
+        for (int i = 0; i < 4; i++) {
+            v.guard(0, 0, 1, 1 + i, i);
+        }
+        rightHere("each of four", v, 5, a(GO, 0), a(THROW, 0), a(THROW, 1), a(THROW, 2), a(THROW, 3));
     }
 
     static void p09AsItWasWhenTakenUp() {
@@ -185,6 +196,8 @@ public final class ComputingBoundariesTest extends TestKit {
         statesAre("and on", x, 7, 1, 13, 11, 0);
         faultyHere("a fault at the second time alone", places(4, 1), PLACE, 0, a(MORE, 0), a(NULL), a(STORE, 0),
                 a(GO, 0));
+        faultyHere("the stack alone", places(4, 1), TYPE, 2, a(NULL), a(MORE, 0), a(FIELD, 2), a(IF, 7), a(NULL),
+                a(CAST, 3), a(GO, 1), a(GO, 7));
         ClosureFrames y = places(4, 1);
         rightHere("what does not change", y, 1, a(MORE, 0), a(GO, 0));
     }
@@ -234,6 +247,32 @@ public final class ComputingBoundariesTest extends TestKit {
                 a(FIELD, 3));
     }
 
+    static void p09CallAndCast() {
+        sentence(9, "likewise: an OBJECT of c. 13 CAST c: an OBJECT or NULL: an OBJECT of c");
+        for (int c = 0; c < 6; c++) {
+            ClosureFrames x = places(4);
+            endless("class " + c, x, a(NULL), a(INT), a(CALL, c), a(NULL), a(CAST, c), a(NULL), a(CAST, 5),
+                    a(CAST, c));
+            due("a call of null", x.state(0, 3, 100), 10 + c);
+            due("a cast of null", x.state(0, 5, 101), 10 + c);
+            due("a cast of an object", x.state(0, 8, 102), 10 + c);
+        }
+        ClosureFrames y = places(4);
+        endless("a call of one below", y, a(NULL), a(CAST, 2), a(INT), a(CALL, 1));
+        due("is of the class above", y.state(0, 4, 100), 11);
+    }
+
+    static void p09Switch() {
+        sentence(9, "on at ACT a (to b, one of these)");
+        ClosureFrames x = right("one", 4, 1, a(INT), a(SWITCH, 3, 3), a(GO, 2), a(GO, 3), a(GO, 4));
+        due("it alone", x.frame(0, 0, 98), 3);
+        due("none ahead of it", x.state(0, 2, 0), NONE);
+        due("none behind it", x.state(0, 4, 0), NONE);
+        ClosureFrames y = right("all but two", 4, 3, a(INT), a(SWITCH, 2, 4), a(GO, 2), a(GO, 3), a(GO, 4));
+        due("the first", y.frame(0, 0, 98), 2);
+        due("the last", y.frame(0, 2, 98), 4);
+    }
+
     static void p09MadeOfThisClass() {
         sentence(9, "an UNMADE goes, which a NEW of this CLASS made");
         faulty("one below", 4, TYPE, 1, a(NEW, 2), a(MAKE, 1));
@@ -246,12 +285,14 @@ public final class ComputingBoundariesTest extends TestKit {
     static void p09AllUnmadeByThatAct() {
         sentence(9, "all UNMADE by that ACT, in PLACES and on the STACK, are OBJECTS of it then");
         ClosureFrames x = places(8);
-        rightHere("in the first and the last", x, 0, a(NEW, 2), a(TWICE), a(TWICE), a(STORE, 0), a(TWICE),
-                a(STORE, 7), a(NEW, 2), a(TWICE), a(STORE, 3), a(POP), a(TWICE), a(MAKE, 2), a(THROW, 2));
-        statesAre("behind it", x, 12, 12, 0, 0, 106, 0, 0, 0, 12);
-        due("the stack", x.state(0, 12, 99), 2);
-        due("the first on it", x.state(0, 12, 100), 12);
-        due("the last on it", x.state(0, 12, 101), 12);
+        rightHere("in the first and the last", x, 0, a(NEW, 2), a(TWICE), a(STORE, 0), a(TWICE), a(STORE, 7),
+                a(INT), a(NEW, 2), a(TWICE), a(STORE, 3), a(WIDE), a(LOAD, 0), a(TWICE), a(MAKE, 2), a(THROW, 2));
+        statesAre("behind it", x, 13, 12, 0, 0, 106, 0, 0, 0, 12);
+        int[] stack = {12, 1, 106, 2, 12};
+        due("the stack", x.state(0, 13, 99), stack.length);
+        for (int i = 0; i < stack.length; i++) {
+            due("on the stack, " + i, x.state(0, 13, 100 + i), stack[i]);
+        }
     }
 
     static void p09JoinedToNothing() {
@@ -465,7 +506,7 @@ public final class ComputingBoundariesTest extends TestKit {
         due("state", x.state(0, 1, 0), STATE);
         due("verify", x.verify(0), STATE);
         x.clear(0, 4);
-        rightHere("told anew", x, 1, a(GO, 0));
+        rightHere("what was due then is not due any more", x, 1, a(GO, 0), a(POP), a(POP), a(POP));
     }
 
     static void p09PutInARest() {

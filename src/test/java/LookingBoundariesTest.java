@@ -276,7 +276,7 @@ public final class LookingBoundariesTest extends TestKit {
     }
 
     static void p17FitsByStack() {
-        sentence(17, "by PLACES and STACK (as long)");
+        sentence(17, "has to FIT it, by PLACES and STACK");
         for (int i = 0; i < 10; i++) {
             ClosureFrames x = places(4);
             tell(x, 0, many(10, NULL, a(GO, 11), a(THROW)));
@@ -352,6 +352,10 @@ public final class LookingBoundariesTest extends TestKit {
         looksWrong("nothing to load", x, PLACE, 2);
         x.plant(0, 0, 1, 12);
         looksRight("as it was", x);
+        ClosureFrames y = places(4, 1, 12);
+        rightHere("a state that fits", y, 1, a(MORE, 0), a(LOAD, 1), a(FIELD, 2), a(IF, 1), a(NULL), a(THROW));
+        y.plant(0, 0, 1, 11);
+        looksWrong("the frame goes on, not the state", y, TYPE, 2);
     }
 
     static void p17NoStateNoFrame() {
@@ -397,6 +401,13 @@ public final class LookingBoundariesTest extends TestKit {
         x.plant(0, 0, 100, 12);
         x.plant(0, 0, 3, 1);
         looksWrong("not what is in a place", x, UNFIT, 1);
+        ClosureFrames z = places(4);
+        z.guard(0, 0, 1, 1, 1);
+        z.guard(0, 0, 1, 2, 2);
+        rightHere("two guards", z, 3, a(GO, 0), a(THROW, 1), a(THROW, 1));
+        looksRight("two guards", z);
+        z.plant(0, 2, 100, 13);
+        looksWrong("the second guard", z, UNFIT, 0);
         ClosureFrames y = places(4);
         y.guard(0, 2, 3, 4, 0);
         rightHere("an unmade", y, 1, a(NEW, 1), a(STORE, 0), a(INT), a(GIVE), a(THROW));

@@ -103,6 +103,18 @@ public final class TellingBoundariesTest extends TestKit {
         }
     }
 
+    static void p01FiveHundredTwelveCalls() {
+        sentence(1, "An object is used for at most 512 calls after it has been made");
+        ClosureFrames x = new ClosureFrames();
+        for (int p = 0; p < 40; p++) {
+            x.act(0, GO, (p + 1) % 40, 0);
+        }
+        for (int call = 41; call <= 511; call++) {
+            due("call " + call, call % 2 == 0 ? x.compute(0) : x.told(31), call == 41 ? NONE : 40);
+        }
+        due("call 512", x.verify(0), 0);
+    }
+
     static void p02NoSuchParent() {
         sentence(2, "A CLASS below one");
         ClosureFrames x = new ClosureFrames();
