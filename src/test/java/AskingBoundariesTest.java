@@ -1,7 +1,5 @@
 /** Promises 11 to 15: a test of its own for each sentence that names a boundary case. */
 public final class AskingBoundariesTest extends TestKit {
-    private static final int[] NO_METHODS = {-1, 8, 9, LOW, HIGH};
-
     public static void main(String[] args) {
         runAll(AskingBoundariesTest.class);
     }
@@ -11,22 +9,6 @@ public final class AskingBoundariesTest extends TestKit {
         ClosureFrames x = places(2, 12);
         tell(x, 0, a(WIDE), a(LOAD, 0), a(NULL), a(GO, 5), a(INT), a(THROW));
         due("compute", x.compute(0), 1);
-        return x;
-    }
-
-    /** Two methods that are computed, the first and the last, so that a wrapped number would be answered. */
-    private static ClosureFrames atBothEnds() {
-        ClosureFrames x = sample();
-        tell(x, 7, a(GO, 0));
-        due("compute", x.compute(7), 1);
-        return x;
-    }
-
-    /** A method with a fault. */
-    private static ClosureFrames byAFault() {
-        ClosureFrames x = places(4);
-        tell(x, 0, a(GO, 1), a(POP));
-        due("compute", x.compute(0), -11);
         return x;
     }
 
@@ -105,7 +87,7 @@ public final class AskingBoundariesTest extends TestKit {
 
     static void p11NoSuchMethod() {
         sentence(11, "BAD -1: no such thing");
-        ClosureFrames x = atBothEnds();
+        ClosureFrames x = atBothEnds(sample());
         for (int m : NO_METHODS) {
             due("method " + m, x.state(m, 0, 0), BAD);
         }
@@ -233,7 +215,7 @@ public final class AskingBoundariesTest extends TestKit {
 
     static void p12NoSuchMethod() {
         sentence(12, "BAD: METHOD");
-        ClosureFrames x = atBothEnds();
+        ClosureFrames x = atBothEnds(sample());
         for (int m : NO_METHODS) {
             due("method " + m, x.frame(m, 0, 98), BAD);
         }
@@ -411,7 +393,7 @@ public final class AskingBoundariesTest extends TestKit {
 
     static void p13NoSuchMethod() {
         sentence(13, "FORM of FRAME k. BAD: METHOD");
-        ClosureFrames x = atBothEnds();
+        ClosureFrames x = atBothEnds(sample());
         for (int m : NO_METHODS) {
             due("method " + m, x.form(m, 0), BAD);
         }
@@ -474,7 +456,7 @@ public final class AskingBoundariesTest extends TestKit {
 
     static void p14NoSuch() {
         sentence(14, "(each once). BAD");
-        ClosureFrames x = atBothEnds();
+        ClosureFrames x = atBothEnds(sample());
         for (int m : NO_METHODS) {
             due("method " + m, x.shared(m, 0), BAD);
         }
@@ -561,7 +543,7 @@ public final class AskingBoundariesTest extends TestKit {
 
     static void p15NoSuch() {
         sentence(15, "(a WIDE on the STACK counts 2). BAD");
-        ClosureFrames x = atBothEnds();
+        ClosureFrames x = atBothEnds(sample());
         for (int m : NO_METHODS) {
             due("method " + m, x.maximum(m, 0), BAD);
             due("method " + m, x.maximum(m, 1), BAD);

@@ -18,7 +18,7 @@ public final class ComputingBoundariesTest extends TestKit {
         ClosureFrames x = withClasses();
         tell(x, 0, a(GO, 0));
         tell(x, 7, a(GO, 0));
-        for (int m : new int[] {-1, 8, LOW, HIGH}) {
+        for (int m : NO_METHODS) {
             due("compute(" + m + ")", x.compute(m), BAD);
         }
         due("the first method was not computed", x.told(31), NONE);

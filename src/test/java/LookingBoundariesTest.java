@@ -1,7 +1,5 @@
 /** Promises 16 to 18: a test of its own for each sentence that names a boundary case. */
 public final class LookingBoundariesTest extends TestKit {
-    private static final int[] NO_METHODS = {-1, 8, 9, LOW, HIGH};
-
     public static void main(String[] args) {
         runAll(LookingBoundariesTest.class);
     }
@@ -12,21 +10,6 @@ public final class LookingBoundariesTest extends TestKit {
         ClosureFrames x = places(5, 1, 2);
         tell(x, 0, a(NEW, 1), a(WIDE), a(GO, 3), a(POP), a(MAKE, 1), a(GO, 6), a(GO, 6));
         due("compute", x.compute(0), 2);
-        return x;
-    }
-
-    /** Two methods that are computed, the first and the last, so that a wrapped number would be answered. */
-    private static ClosureFrames atBothEnds() {
-        ClosureFrames x = sample();
-        tell(x, 7, a(GO, 0));
-        due("compute", x.compute(7), 1);
-        return x;
-    }
-
-    private static ClosureFrames byAFault() {
-        ClosureFrames x = places(4);
-        tell(x, 0, a(GO, 1), a(POP));
-        due("compute", x.compute(0), -11);
         return x;
     }
 
@@ -95,7 +78,7 @@ public final class LookingBoundariesTest extends TestKit {
 
     static void p16NoSuchMethod() {
         sentence(16, "100 .. 109; METHOD");
-        ClosureFrames x = atBothEnds();
+        ClosureFrames x = atBothEnds(sample());
         for (int m : NO_METHODS) {
             due("method " + m, x.plant(m, 0, 0, 4), BAD);
         }
@@ -213,7 +196,7 @@ public final class LookingBoundariesTest extends TestKit {
 
     static void p17NoSuchMethod() {
         sentence(17, "-10 less the ACT of the FAULT. BAD");
-        ClosureFrames x = atBothEnds();
+        ClosureFrames x = atBothEnds(sample());
         for (int m : NO_METHODS) {
             due("method " + m, x.verify(m), BAD);
         }

@@ -1,7 +1,5 @@
 /** Promises 1 to 8: a test of its own for each sentence that names a boundary case. */
 public final class TellingBoundariesTest extends TestKit {
-    private static final int[] NO_METHODS = {-1, 8, 9, LOW, HIGH};
-
     public static void main(String[] args) {
         runAll(TellingBoundariesTest.class);
     }
@@ -542,10 +540,13 @@ public final class TellingBoundariesTest extends TestKit {
             due("kind " + kind, x.act(0, kind, 1, HIGH), n++);
         }
         due("forty", n, 40);
-        ClosureFrames y = withClasses();
-        y.act(0, INT, 0, 39);
-        y.act(0, GIVE, 0, 0);
-        due("it is not gone to", y.compute(0), 0);
+        for (int number : new int[] {LOW, -1, 0, 39, HIGH}) {
+            ClosureFrames y = withClasses();
+            y.act(0, INT, number, 39);
+            y.act(0, GIVE, number, 0);
+            due(number + " is not gone to", y.compute(0), 0);
+            due(number + " is not looked for", y.verify(0), 0);
+        }
     }
 
     static void p07FortyAtMost() {

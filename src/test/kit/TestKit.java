@@ -16,6 +16,7 @@ class TestKit {
     static final int EMPTY = 1, TYPE = 2, DEEP = 3, HEIGHT = 4, END = 5, UNMADE = 6, PLACE = 7, NO_FRAME = 8,
             UNFIT = 9;
     static final int LOW = Integer.MIN_VALUE, HIGH = Integer.MAX_VALUE;
+    static final int[] NO_METHODS = {-1, 8, 9, LOW, HIGH};
 
     private static final String DOCUMENT = "../shared/DOC.md";
 
@@ -158,6 +159,21 @@ class TestKit {
                 say("an argument of a test was refused: " + type);
             }
         }
+        return x;
+    }
+
+    /** The last method is computed beside the first, so that a method's number that wraps would be answered. */
+    static ClosureFrames atBothEnds(ClosureFrames x) {
+        tell(x, 7, a(GO, 0));
+        due("compute", x.compute(7), 1);
+        return x;
+    }
+
+    /** An object whose method 0 was computed with a fault at act 1. */
+    static ClosureFrames byAFault() {
+        ClosureFrames x = places(4);
+        tell(x, 0, a(GO, 1), a(POP));
+        due("compute", x.compute(0), -11);
         return x;
     }
 
